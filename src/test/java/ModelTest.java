@@ -77,7 +77,7 @@ public final class ModelTest {
 
     private void change() {
         int v = random.nextInt(61);
-        switch (random.nextInt(9)) {
+        switch (random.nextInt(12)) {
             case 0 -> {
                 c.due(said + " law", x.law(v % 3), m.state.law);
                 m.state.law = v % 3;
@@ -96,11 +96,11 @@ public final class ModelTest {
                 c.due(said + " begin", x.begin(i, v % 3), m.desks.size());
                 m.begin(i, v % 3);
             }
-            case 4 -> {
+            case 4, 5 -> {
                 c.due(said + " keep", x.keep(v % 3), m.state.hour);
                 m.kept[v % 3] = m.state.copy();
             }
-            case 5 -> goOn(v % 3);
+            case 6, 7 -> goOn(v % 3);
             default -> {
                 int n = random.nextInt(4);
                 int seed = 1 + random.nextInt(Integer.MAX_VALUE - 1);

@@ -21,6 +21,7 @@ public final class RoundTest {
         words(c);
         next(c);
         keepAndOn(c);
+        keptEntries(c);
         c.end();
     }
 
@@ -356,6 +357,23 @@ public final class RoundTest {
         x.go(60, 1);
         c.due("on(2), the kept one goes not on", x.on(2), 2);
         c.due("keep(-1)", x.keep(-1), BAD);
+    }
+
+    /** What each put in and wrote is another thing in the ROUND between. */
+    private static void keptEntries(Check c) {
+        EnvelopeCard x = Check.office("c511 c322 c733");
+        x.go(3, 1);
+        x.keep(1);
+        x.begin(2, 2);
+        x.law(1);
+        x.go(7, 1);
+        c.due("on(1)", x.on(1), 3);
+        int[] gifts = {5, 3, 7};
+        for (int i = 0; i < 3; i++) {
+            c.tells(x, "kept, told(" + i + ", 1)", x.told(i, 1), i);
+            c.tells(x, "kept, told(" + i + ", 2)", x.told(i, 2), gifts[i]);
+            c.tells(x, "kept, told(" + i + ", 3)", x.told(i, 3), 1);
+        }
     }
 
     private static void moveOn(EnvelopeCard x) {

@@ -13,6 +13,7 @@ public final class TellingTest {
         findings(c);
         digestOfNone(c);
         digestOfAll(c);
+        digestOfBack(c);
         c.end();
     }
 
@@ -173,6 +174,20 @@ public final class TellingTest {
         tell(told, 1, -56, -1);
         c.due("digest() of all", x.digest(), mixed(told));
         c.due("asked() stays", x.asked(), 0);
+    }
+
+    private static void digestOfBack(Check c) {
+        EnvelopeCard x = Check.office("h514");
+        x.go(2, 1);
+        x.tear(0);
+        List<Integer> told = new ArrayList<>();
+        tell(told, 1, 1, 2, 0, 0, 0, 0, 1);
+        tell(told, 0, 0, 0, 0, 0, 0, 1);
+        tell(told, 0, 5, 1, 4, -9, -9, 1, 0, 5, 4, 0);
+        tell(told, -1, -1, -1);
+        tell(told, -1, -1, -1, -1, -1, -1);
+        tell(told, -1, -1, -1, 4, 'h', '5', '1', '4');
+        c.due("digest(), BACK", x.digest(), mixed(told));
     }
 
     private static void tell(List<Integer> told, int... more) {
