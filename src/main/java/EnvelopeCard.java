@@ -71,14 +71,9 @@ public final class EnvelopeCard {
     }
 
     public int lay(int r, int i, int v) {
-        if (!rows.names(r)) {
-            return BAD;
-        }
-        if (!rows.isThere(r)) {
-            return refuse(NOTHING);
-        }
-        if (!rows.hasPlace(r, i)) {
-            return refuse(BEYOND);
+        int refused = refusePlace(rows, r, i);
+        if (refused != 0) {
+            return refused;
         }
         int before = rows.cell(r, i);
         rows.setCell(r, i, v);
@@ -86,24 +81,17 @@ public final class EnvelopeCard {
     }
 
     public int at(int r, int i) {
-        if (!rows.names(r)) {
-            return BAD;
-        }
-        if (!rows.isThere(r)) {
-            return refuse(NOTHING);
-        }
-        if (!rows.hasPlace(r, i)) {
-            return refuse(BEYOND);
+        int refused = refusePlace(rows, r, i);
+        if (refused != 0) {
+            return refused;
         }
         return tell(rows.cell(r, i), 1);
     }
 
     public int tear(int r) {
-        if (!rows.names(r)) {
-            return BAD;
-        }
-        if (!rows.isThere(r)) {
-            return refuse(NOTHING);
+        int refused = refuseMissing(rows, r);
+        if (refused != 0) {
+            return refused;
         }
         rows.drop(r);
         return 1;
@@ -127,11 +115,9 @@ public final class EnvelopeCard {
     }
 
     public int mean(int r) {
-        if (!rows.names(r)) {
-            return BAD;
-        }
-        if (!rows.isThere(r)) {
-            return refuse(NOTHING);
+        int refused = refuseMissing(rows, r);
+        if (refused != 0) {
+            return refused;
         }
         int size = rows.sizeOf(r);
         if (size == 0) {
@@ -156,14 +142,9 @@ public final class EnvelopeCard {
     }
 
     public int put(int t, int i, int v) {
-        if (!texts.names(t)) {
-            return BAD;
-        }
-        if (!texts.isThere(t)) {
-            return refuse(NOTHING);
-        }
-        if (!texts.hasPlace(t, i)) {
-            return refuse(BEYOND);
+        int refused = refusePlace(texts, t, i);
+        if (refused != 0) {
+            return refused;
         }
         int before = texts.cell(t, i);
         texts.setCell(t, i, (byte) v);
@@ -171,21 +152,17 @@ public final class EnvelopeCard {
     }
 
     public int fault(int t) {
-        if (!texts.names(t)) {
-            return BAD;
-        }
-        if (!texts.isThere(t)) {
-            return refuse(NOTHING);
+        int refused = refuseMissing(texts, t);
+        if (refused != 0) {
+            return refused;
         }
         return draft.read(texts, t);
     }
 
     public int office(int t) {
-        if (!texts.names(t)) {
-            return BAD;
-        }
-        if (!texts.isThere(t)) {
-            return refuse(NOTHING);
+        int refused = refuseMissing(texts, t);
+        if (refused != 0) {
+            return refused;
         }
         if (draft.read(texts, t) != NONE) {
             return STATE;
@@ -478,11 +455,9 @@ public final class EnvelopeCard {
     }
 
     public int buy(int r) {
-        if (!rows.names(r)) {
-            return BAD;
-        }
-        if (!rows.isThere(r)) {
-            return refuse(NOTHING);
+        int refused = refuseMissing(rows, r);
+        if (refused != 0) {
+            return refused;
         }
         if (rows.sizeOf(r) > MOST_GIFTS) {
             return refuse(SIZE);
@@ -558,11 +533,12 @@ public final class EnvelopeCard {
     // ---- 6 cards
 
     public int fits(int w, int h, int r) {
-        if (!isCard(w, h) || !rows.names(r)) {
+        if (!isCard(w, h)) {
             return BAD;
         }
-        if (!rows.isThere(r)) {
-            return refuse(NOTHING);
+        int refused = refuseMissing(rows, r);
+        if (refused != 0) {
+            return refused;
         }
         if (!rows.allWithin(r, 1, MOST_WIDTH)) {
             return refuse(UNLIKE);
@@ -581,11 +557,12 @@ public final class EnvelopeCard {
     }
 
     public int room(int w, int h, int r) {
-        if (!isCard(w, h) || !rows.names(r)) {
+        if (!isCard(w, h)) {
             return BAD;
         }
-        if (!rows.isThere(r)) {
-            return refuse(NOTHING);
+        int refused = refuseMissing(rows, r);
+        if (refused != 0) {
+            return refused;
         }
         if (rows.sizeOf(r) > MOST_FREE_NAMES) {
             return refuse(SIZE);
@@ -749,6 +726,23 @@ public final class EnvelopeCard {
         return FINDING;
     }
 
+    /** 0, or why there is no such row or text. */
+    private int refuseMissing(Shelf shelf, int k) {
+        if (!shelf.names(k)) {
+            return BAD;
+        }
+        return shelf.isThere(k) ? 0 : refuse(NOTHING);
+    }
+
+    /** 0, or why there is no such place in a row or text. */
+    private int refusePlace(Shelf shelf, int k, int i) {
+        int refused = refuseMissing(shelf, k);
+        if (refused != 0) {
+            return refused;
+        }
+        return shelf.hasPlace(k, i) ? 0 : refuse(BEYOND);
+    }
+
     private int tell(int number, int answer) {
         askedNumber = number;
         return answer;
@@ -846,11 +840,9 @@ public final class EnvelopeCard {
 
     /** Reads a ROW as ORDER; 0, or why it is refused. */
     private int readOrder(int r) {
-        if (!rows.names(r)) {
-            return BAD;
-        }
-        if (!rows.isThere(r)) {
-            return refuse(NOTHING);
+        int refused = refuseMissing(rows, r);
+        if (refused != 0) {
+            return refused;
         }
         sequence.clear();
         for (int k = 0; k < rows.sizeOf(r); k++) {
