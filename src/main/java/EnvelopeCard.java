@@ -597,9 +597,6 @@ public final class EnvelopeCard {
         if (!desks.names(i)) {
             return BAD;
         }
-        if (years.number >= MOST_YEARS) {
-            return FULL;
-        }
         trial.copyTermsFrom(round);
         return years.add(desks, trial, i);
     }
@@ -692,7 +689,7 @@ public final class EnvelopeCard {
     }
 
     public int findings(int f) {
-        if (f < 1 || f > FINDINGS || f >= findingCounts.length) {
+        if (f < 1 || f >= findingCounts.length) {
             return BAD;
         }
         return findingCounts[f];
@@ -1202,11 +1199,9 @@ public final class EnvelopeCard {
         }
 
         void copyFrom(Round other) {
-            for (int i = 0; i < MOST_DESKS; i++) {
-                hours[i] = other.hours[i];
-                gifts[i] = other.gifts[i];
-                written[i] = other.written[i];
-            }
+            copyCells(other.hours, hours);
+            copyCells(other.gifts, gifts);
+            copyCells(other.written, written);
             start = other.start;
             rule = other.rule;
             at = other.at;
@@ -1218,12 +1213,18 @@ public final class EnvelopeCard {
             linked = other.linked;
         }
 
+        static void copyCells(int[] from, int[] to) {
+            for (int i = 0; i < from.length && i < to.length; i++) {
+                to[i] = from[i];
+            }
+        }
+
         boolean isCrossed(int i) {
             return i >= 0 && i < MOST_DESKS && (crossed >> i & 1) != 0;
         }
 
         void cross(int i, int gift, int word) {
-            if (i >= 0 && i < MOST_DESKS) {
+            if (i >= 0 && i < hours.length && i < gifts.length && i < written.length) {
                 hours[i] = hour;
                 gifts[i] = gift;
                 written[i] = word;
@@ -1613,7 +1614,7 @@ public final class EnvelopeCard {
         }
 
         void markBest() {
-            for (int k = 0; k < sequence.length; k++) {
+            for (int k = 0; k < sequence.length && k < bestSequence.length; k++) {
                 bestSequence[k] = sequence[k];
             }
         }
@@ -1754,11 +1755,11 @@ public final class EnvelopeCard {
             for (int y = 0; y < rows.sizeOf(r); y++) {
                 celebrate(desks, pot, rows.cell(r, y), balances, 0);
             }
-            int greatest = balances[0];
-            int least = balances[0];
-            for (int i = 1; i < desks.number && i < balances.length; i++) {
-                greatest = Math.max(greatest, balances[i]);
-                least = Math.min(least, balances[i]);
+            int greatest = cell(balances, 0);
+            int least = greatest;
+            for (int i = 1; i < desks.number; i++) {
+                greatest = Math.max(greatest, cell(balances, i));
+                least = Math.min(least, cell(balances, i));
             }
             return greatest - least;
         }

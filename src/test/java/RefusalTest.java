@@ -7,6 +7,9 @@ public final class RefusalTest {
     private static final String[] OFFICES = {"", "h521q342p7336a64412c255e911h836q412", "p9991p1115p2223p3337p4449",
         "h12", "q111q222q333q444q555q666q777q888q999", "a11109a22209", "c111e222c333", "x"};
     private static final int KINDS = 50;
+    /** Behind these no step begins: so no object is used for more than 512 calls. */
+    private static final int ENOUGH_CALLS = 450;
+    private static final int CALLS_TO_JUDGE = 22;
 
     private final Check c;
     private final Random random;
@@ -19,19 +22,26 @@ public final class RefusalTest {
 
     public static void main(String[] args) {
         Check c = new Check("RefusalTest");
-        for (int run = 0; run < 600; run++) {
+        for (int run = 0; run < 1500; run++) {
             new RefusalTest(c, run).run();
         }
         c.end();
     }
 
     private void run() {
-        for (int k = 0; k < 60; k++) {
+        int calls = 0;
+        while (calls < ENOUGH_CALLS) {
             int kind = random.nextInt(KINDS + 4);
             if (kind >= KINDS) {
-                Check.write(x, random.nextInt(4), OFFICES[random.nextInt(OFFICES.length)]);
-            } else {
+                String office = OFFICES[random.nextInt(OFFICES.length)];
+                Check.write(x, random.nextInt(4), office);
+                calls += 1 + office.length();
+            } else if (random.nextInt(3) == 0) {
                 judge(kind);
+                calls += CALLS_TO_JUDGE;
+            } else {
+                call(kind);
+                calls++;
             }
         }
     }
